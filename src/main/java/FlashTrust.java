@@ -13,6 +13,7 @@ public final class FlashTrust {
     private static final int MOST_BODY = 55, MOST_DOCUMENT = MOST_BODY + 4 + KEYS;
 
     private static final int PAGE_BYTES = 32, SECTOR_PAGES = 4, SECTOR_BYTES = 128, SECTORS = 26;
+    private static final int MOST_NUMBER = 2147483647;
     private static final int STATE_SECTOR = 8, STATE_PAGES = 8, SLOT_SECTOR = 10, SLOT_SECTORS = 8;
 
     private static final int NOTHING = 0, LOADING = 1, READY = 2, TRIED = 3;
@@ -42,6 +43,7 @@ public final class FlashTrust {
             shelves[role] = new Shelf(flash, role);
         }
         states = new States(flash, length);
+        states.install();
         loader = new Loader(flash, states);
         update = new Update(flash, shelves, states, signatures);
     }
@@ -676,7 +678,7 @@ public final class FlashTrust {
             long found = flash.cells.number(start, 4);
             int length = (int) flash.cells.number(start + 4, 2);
             number = 0;
-            if (found < 1 || found > Integer.MAX_VALUE || length > SECTOR_BYTES - HEAD_BYTES - CHECK_BYTES) {
+            if (found < 1 || found > MOST_NUMBER || length > SECTOR_BYTES - HEAD_BYTES - CHECK_BYTES) {
                 return;
             }
             long check = Row.checkOf(flash.cells.hash(start, HEAD_BYTES + length));
@@ -700,7 +702,7 @@ public final class FlashTrust {
         private final Entry second;
         private final Paper factory = new Paper();
         private final boolean hasFactory;
-        private final Row entry = new Row(SECTOR_BYTES);
+        private final Row kept = new Row(SECTOR_BYTES);
 
         Shelf(Flash flash, int role) {
             this.flash = flash;
@@ -710,12 +712,16 @@ public final class FlashTrust {
             factory.becomeFactoryRoot();
         }
 
+        private boolean secondCounts() {
+            return second.number > first.number;
+        }
+
         private Entry counting() {
-            return second.number > first.number ? second : first;
+            return secondCounts() ? second : first;
         }
 
         int number() {
-            return counting().number;
+            return Math.max(first.number, second.number);
         }
 
         boolean holds() {
@@ -732,14 +738,14 @@ public final class FlashTrust {
 
         /** An empty row stands for no DOCUMENT. */
         void keep(Row document) {
-            Entry other = number() > 0 && counting() == first ? second : first;
-            entry.empty();
-            entry.addNumber(number() + 1, 4);
-            entry.addNumber(document.size(), 2);
-            entry.addFrom(document, 0, document.size());
-            entry.addNumber(Row.checkOf(entry.hash(0, entry.size())), 4);
+            Entry other = number() == 0 || secondCounts() ? first : second;
+            kept.empty();
+            kept.addNumber(number() + 1, 4);
+            kept.addNumber(document.size(), 2);
+            kept.addFrom(document, 0, document.size());
+            kept.addNumber(Row.checkOf(kept.hash(0, kept.size())), 4);
             flash.erase(other.sector);
-            flash.writeAll(other.sector * SECTOR_PAGES, entry);
+            flash.writeAll(other.sector * SECTOR_PAGES, kept);
             other.look();
         }
     }
@@ -768,6 +774,9 @@ public final class FlashTrust {
             this.flash = flash;
             this.factoryLength = factoryLength;
             factoryHash = flash.programHash(0, factoryLength);
+        }
+
+        void install() {
             becomeFactory();
             compose(1);
             flash.burn(FIRST_PAGE, page, 0);
@@ -853,7 +862,7 @@ public final class FlashTrust {
             for (int i = 0; i < STATE_PAGES; i++) {
                 int start = (FIRST_PAGE + i) * PAGE_BYTES;
                 long found = flash.cells.number(start, 4);
-                if (found > number && found <= Integer.MAX_VALUE && fits(start)) {
+                if (found > number && found <= MOST_NUMBER && fits(start)) {
                     place = i;
                     number = (int) found;
                 }
@@ -1191,7 +1200,6 @@ public final class FlashTrust {
         int start(int newClock) {
             error = 0;
             clock = newClock;
-            piece = 0;
             awaited = AWAITS_ROOT;
             return awaited;
         }

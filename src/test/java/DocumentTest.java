@@ -126,6 +126,10 @@ public final class DocumentTest {
         isImages("no number of images", new Bytes().num(1, 2).num(501, 4), MALFORMED);
         isImages("one", imagesBody(1, 1, 1), good);
         isImages("four", imagesBody(4, 1, 1, 2, 1024, 300, 77, 65535, 5), good);
+        Bytes longest = Bytes.document(3, imagesBody(4, 1, 1, 2, 1024, 300, 77, 65535, 5),
+                0, 1, 2, 3, 4, 5, 6, 7, 8, 9, 10, 11, 12, 13, 14, 15);
+        Due.is("the longest DOCUMENT", longest.size(), 75);
+        isDue("four, with all keys", 4, longest, good);
         isImages("five", imagesBody(5, 1, 1, 2, 1024, 300, 77, 400, 5, 500, 5), MALFORMED);
         isImages("VERSION 0", imagesBody(1, 0, 1), MALFORMED);
         isImages("VERSIONS that do not rise", imagesBody(2, 5, 1, 5, 1), MALFORMED);

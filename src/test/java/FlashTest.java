@@ -5,6 +5,7 @@ public final class FlashTest {
     public static void main(String[] args) {
         power();
         records();
+        longestRecord();
         cutWriting();
         cutErasing(0);
         cutErasing(-1);
@@ -67,6 +68,36 @@ public final class FlashTest {
         Bytes.record(1, Bytes.document(0, root, 0, 1)).padTo(128).isOnFlash("ROOT", x, 0, 0);
         Due.is("writings", x.told(10), 7);
         Due.is("erasings", x.told(11), 6);
+    }
+
+    private static void longestRecord() {
+        Line line = new Line(10);
+        FlashTrust x = line.x;
+        Bytes body = new Bytes().num(1, 2).num(500, 4).num(4, 1);
+        for (int i = 0; i < 4; i++) {
+            x.image(2 + i, 100 + i, i);
+            body.num(2 + i, 2).num(100 + i, 2).num(Bytes.program(100 + i, i).digest(), 8);
+        }
+        line.toTime(10);
+        line.prepare(1, 500);
+        line.sendTime(1, 500);
+        line.sendList(1, 500);
+        int writings = x.told(10);
+        int[] keys = new int[16];
+        for (int i = 0; i < 16; i++) {
+            keys[i] = i;
+        }
+        x.power(3, -1);
+        Due.is("IMAGES by all keys, cut in the last page", line.send(3, 1, 500, keys), DOWN);
+        Due.is("three pages", x.told(10), writings + 3);
+        Due.is("none yet", x.trusted(3, 0, 0), NONE);
+        x.boot();
+        line.toTime(10);
+        line.sendTime(1, 500);
+        Due.is("once more", line.send(3, 1, 500, keys), 5);
+        Due.is("all keys", x.trusted(3, 2, 0), 65535);
+        Due.is("VERSION of the last", x.trusted(3, 8, 3), 5);
+        Bytes.record(1, Bytes.document(3, body, keys)).padTo(128).isOnFlash("the longest", x, 6, 0);
     }
 
     private static void cutWriting() {
