@@ -872,6 +872,7 @@ public final class FlashTrust {
             }
         }
 
+        /** The two bytes ahead of the CHECK are written as 0s, but may be any: an erasing that power cut leaves such. */
         private boolean fits(int start) {
             Row cells = flash.cells;
             if (Row.checkOf(cells.hash(start, CHECKED_BYTES)) != cells.number(start + CHECKED_BYTES, 4)) {
@@ -883,7 +884,7 @@ public final class FlashTrust {
             boolean stagedFits = kind == NOTHING ? nextLength == 0
                     : kind <= TRIED && nextVersion > 0 && isProgramLength(nextLength);
             return stagedFits && cells.at(start + 4) <= 1 && cells.number(start + 5, 2) > 0
-                    && isProgramLength(cells.number(start + 7, 2)) && cells.number(start + 26, 2) == 0;
+                    && isProgramLength(cells.number(start + 7, 2));
         }
 
         private static boolean isProgramLength(long bytes) {
