@@ -7,6 +7,7 @@ public final class FlashTest {
         records();
         longestRecord();
         cutWriting();
+        cutInTheCheck();
         cutErasing(0);
         cutErasing(-1);
         cutErasing(1);
@@ -121,6 +122,21 @@ public final class FlashTest {
         Due.is("once more", line.send(0, 2, 900, 0, 1), 1);
         Due.is("number 1", x.trusted(0, 3, 0), 1);
         Due.is("in the first sector", x.flash(0, 3), 1);
+    }
+
+    /** With three keys the DOCUMENT ends in the first page, and the last bytes of its CHECK stand in the second. */
+    private static void cutInTheCheck() {
+        Line line = new Line(10);
+        FlashTrust x = line.x;
+        line.toTime(10);
+        x.power(2, 0);
+        Due.is("the second page", line.send(1, 1, 400, 3, 4, 5), DOWN);
+        Bytes time = Bytes.document(1, Bytes.told(1, 400, 1, 0), 3, 4, 5);
+        Due.is("the DOCUMENT's end", 6 + time.size(), 29);
+        time.isOnFlash("the DOCUMENT is there", x, 2, 6);
+        Due.is("a byte of the CHECK is not", x.flash(2, 32), 255);
+        Due.is("it is not TRUSTED", x.trusted(1, 0, 0), NONE);
+        Due.is("nor has it a number", x.trusted(1, 3, 0), 0);
     }
 
     private static void cutErasing(int mask) {
