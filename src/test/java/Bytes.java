@@ -83,7 +83,7 @@ final class Bytes {
                 .num(numbers[3], 1).num(numbers[4], 2).num(numbers[5], 2).num(stagedDigest, 6).num(0, 2).check();
     }
 
-    void isOnTape(String what, FlashTrust x) {
+    void isOnTape(String what, Device x) {
         for (int i = 0; i < size(); i++) {
             Due.is(what + ", byteOf(" + i + ")", x.byteOf(i), all.get(i));
         }
@@ -91,14 +91,14 @@ final class Bytes {
         Due.is(what + ", digest()", x.digest(), digest());
     }
 
-    void isOnFlash(String what, FlashTrust x, int sector, int from) {
+    void isOnFlash(String what, Device x, int sector, int from) {
         for (int i = 0; i < size(); i++) {
             Due.is(what + ", flash(" + sector + ", " + (from + i) + ")", x.flash(sector, from + i), all.get(i));
         }
     }
 
     /** Puts these bytes on the tape, by feed() and end(), instead of what is there. */
-    void feedTo(FlashTrust x) {
+    void feedTo(Device x) {
         emptyTape(x);
         for (int from = 0; from < size(); from += 20) {
             int[] words = new int[5];
@@ -113,7 +113,7 @@ final class Bytes {
         }
     }
 
-    static void emptyTape(FlashTrust x) {
+    static void emptyTape(Device x) {
         int left = 300;
         for (int i = 0; i < 16 && left >= 20; i++) {
             x.end(0);
@@ -126,7 +126,7 @@ final class Bytes {
         }
     }
 
-    static int sizeOfTape(FlashTrust x) {
+    static int sizeOfTape(Device x) {
         int size = 0;
         while (x.byteOf(size) >= 0) {
             size++;

@@ -45,7 +45,7 @@ public final class CutCheckTest {
 
     /** Up to the last PIECE, which is on the tape, but spoiled. Each of these images has 1 to 32 bytes there. */
     private static void toWrongPiece(Line line, int documents) {
-        FlashTrust x = line.x;
+        Device x = line.x;
         Due.is("LOADING", line.toPieces(documents), 5);
         for (int k = 0; k < x.told(8) / 64; k++) {
             x.piece(x.awaits(1), k);
@@ -70,7 +70,7 @@ public final class CutCheckTest {
     }
 
     /** So that the rule in hand, and not the CHECK, decides whether it counts. */
-    private static void checkFits(FlashTrust x, int sector, int from, int length) {
+    private static void checkFits(Device x, int sector, int from, int length) {
         Bytes bytes = new Bytes();
         for (int i = 0; i < length; i++) {
             bytes.ones(x.flash(sector, from + i));
@@ -78,13 +78,13 @@ public final class CutCheckTest {
         bytes.check().isOnFlash("the CHECK fits", x, sector, from);
     }
 
-    private static int pair(FlashTrust x, int sector, int i) {
+    private static int pair(Device x, int sector, int i) {
         return x.flash(sector, i) * 256 + x.flash(sector, i + 1);
     }
 
     private static void bytesAheadOfTheCheckAreFree() {
         Line line = cutInSector8(0, 590, 20, 90, -50528513);
-        FlashTrust x = line.x;
+        Device x = line.x;
         checkFits(x, 8, 32, 28);
         Due.holds("the two bytes are not 0", pair(x, 8, 32 + 26) > 0);
         line.isTold("it counts", 1, 0, 0, 0, 259, 769, 3, 591, 791, 66307);
@@ -102,7 +102,7 @@ public final class CutCheckTest {
     /** Its LENGTH and DIGEST stayed as they were, so the factory's program RUNS by another VERSION. */
     private static void otherVersionRuns() {
         Line line = cutInSector8(620, 60728, 2, 137, -231425);
-        FlashTrust x = line.x;
+        Device x = line.x;
         checkFits(x, 8, 32, 28);
         line.isTold("it counts", 1, 0, 0, 0, 34819, 620, 1, 60856, 770, 8913666);
         Due.is("boot", x.boot(), 34819);
@@ -177,7 +177,7 @@ public final class CutCheckTest {
     /** First a STATE in sector 8 comes to count, then one of the same number is left in sector 9, too. */
     private static void likeNumbers() {
         Line line = new Line(40);
-        FlashTrust x = line.x;
+        Device x = line.x;
         x.image(41722, 1, 90);
         loadWrongly(line, 1, 2);
         x.clear();
@@ -203,7 +203,7 @@ public final class CutCheckTest {
 
     private static void timeOfAGreaterNumber() {
         Line line = new Line(40);
-        FlashTrust x = line.x;
+        Device x = line.x;
         Due.is("the first", sendTimeAlone(line, 100, 1079786), 3);
         Due.is("the second", sendTimeAlone(line, 100, 1079000), 3);
         x.power(0, -65537);
@@ -224,7 +224,7 @@ public final class CutCheckTest {
     /** The ROOT's bytes are so chosen that IMAGES of one image are left of them. */
     private static void rootOfAnotherRole() {
         Line line = new Line(40);
-        FlashTrust x = line.x;
+        Device x = line.x;
         x.plan(0, 1, 1);
         x.plan(3, 9, 2);
         x.begin(10);

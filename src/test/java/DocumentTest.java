@@ -12,7 +12,7 @@ public final class DocumentTest {
 
     private static int answerTo(int awaited, Bytes document) {
         Line line = new Line(10);
-        FlashTrust x = line.x;
+        Device x = line.x;
         x.begin(10);
         if (awaited > 1) {
             x.refuse();

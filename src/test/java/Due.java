@@ -2,14 +2,20 @@
 final class Due {
     private static int asked = 0;
     private static int wrong = 0;
+    private static String sentence = "";
 
     private Due() { }
+
+    /** Names the promise, and the document's sentence, that the answers from here on are held against. */
+    static void promise(int number, String words) {
+        sentence = "promise " + number + " (" + words + "): ";
+    }
 
     static void is(String what, long got, long want) {
         asked++;
         if (got != want) {
             wrong++;
-            System.out.println(what + " answered " + got + ", due is " + want);
+            System.out.println(sentence + what + " answered " + got + ", due is " + want);
         }
     }
 

@@ -20,7 +20,7 @@ public final class FlashTest {
     }
 
     private static void power() {
-        FlashTrust x = new FlashTrust(10);
+        Device x = new Device(10);
         Due.is("power(-2)", x.power(-2, 0), BAD);
         Due.is("power(501)", x.power(501, 0), BAD);
         Due.is("none told", x.told(12), -1);
@@ -37,7 +37,7 @@ public final class FlashTest {
 
     private static void records() {
         Line line = new Line(10);
-        FlashTrust x = line.x;
+        Device x = line.x;
         line.toTime(10);
         x.power(5, 0);
         line.prepare(1, 500);
@@ -73,7 +73,7 @@ public final class FlashTest {
 
     private static void longestRecord() {
         Line line = new Line(10);
-        FlashTrust x = line.x;
+        Device x = line.x;
         Bytes body = new Bytes().num(1, 2).num(500, 4).num(4, 1);
         for (int i = 0; i < 4; i++) {
             x.image(2 + i, 100 + i, i);
@@ -103,7 +103,7 @@ public final class FlashTest {
 
     private static void cutWriting() {
         Line line = new Line(10);
-        FlashTrust x = line.x;
+        Device x = line.x;
         x.begin(10);
         x.power(2, 0);
         Due.is("the second page of ROOT", line.send(0, 2, 900, 0, 1), DOWN);
@@ -127,7 +127,7 @@ public final class FlashTest {
     /** With three keys the DOCUMENT ends in the first page, and the last bytes of its CHECK stand in the second. */
     private static void cutInTheCheck() {
         Line line = new Line(10);
-        FlashTrust x = line.x;
+        Device x = line.x;
         line.toTime(10);
         x.power(2, 0);
         Due.is("the second page", line.send(1, 1, 400, 3, 4, 5), DOWN);
@@ -141,7 +141,7 @@ public final class FlashTest {
 
     private static void cutErasing(int mask) {
         Line line = new Line(10);
-        FlashTrust x = line.x;
+        Device x = line.x;
         for (int version = 1; version <= 2; version++) {
             line.toTime(10);
             line.sendTime(version, 400);
@@ -172,7 +172,7 @@ public final class FlashTest {
 
     private static void whenDown() {
         Line line = new Line(10);
-        FlashTrust x = line.x;
+        Device x = line.x;
         line.toTime(10);
         x.power(0, 5);
         line.sendTime(1, 500);
@@ -196,7 +196,7 @@ public final class FlashTest {
         for (int n = 0; n < 24; n++) {
             for (int mask : masks) {
                 Line line = new Line(40);
-                FlashTrust x = line.x;
+                Device x = line.x;
                 x.image(2, 130, 5);
                 x.power(n, mask);
                 int said = line.toPieces(1);
@@ -221,7 +221,7 @@ public final class FlashTest {
     private static void rootCutBetweenItsDrops() {
         for (int n = 0; n <= 6; n++) {
             Line line = new Line(10);
-            FlashTrust x = line.x;
+            Device x = line.x;
             line.toPieces(1);
             x.plan(2, 256, 1);
             x.begin(10);

@@ -24,7 +24,7 @@ public final class LikeDigestTest {
         Bytes second = Bytes.told(41, 554, 2, list(2, 69927).digest());
         Due.is("the DIGEST is the same", second.digest(), first.digest());
         Line line = new Line(40);
-        FlashTrust x = line.x;
+        Device x = line.x;
         Bytes.document(1, second, 3).feedTo(x);
         line.toTime(10);
         Due.is("not SIGNED yet", x.answer(), -12);
@@ -54,7 +54,7 @@ public final class LikeDigestTest {
 
     private static void listOfAnotherVersion() {
         Line line = new Line(40);
-        FlashTrust x = line.x;
+        Device x = line.x;
         draftFirstList(line);
         line.toTime(10);
         Due.is("TIME", line.sendTime(1, 500), 3);
@@ -67,7 +67,7 @@ public final class LikeDigestTest {
 
     private static void trustedListOfAnotherVersion() {
         Line line = new Line(40);
-        FlashTrust x = line.x;
+        Device x = line.x;
         draftFirstList(line);
         line.toTime(10);
         line.sendTime(1, 500);
@@ -104,7 +104,7 @@ public final class LikeDigestTest {
 
     private static void imagesOfAnotherVersion() {
         Line line = new Line(40);
-        FlashTrust x = line.x;
+        Device x = line.x;
         draftFirstImages(line);
         Due.is("LIST", sendTimeAndList(line, 1), 4);
         Due.is("the VERSION wanted", x.awaits(1), 14);
@@ -116,7 +116,7 @@ public final class LikeDigestTest {
 
     private static void trustedImagesOfAnotherVersion() {
         Line line = new Line(40);
-        FlashTrust x = line.x;
+        Device x = line.x;
         draftFirstImages(line);
         sendTimeAndList(line, 1);
         draftFirstImages(line);

@@ -1,9 +1,13 @@
 /** A device that runs, and the other side, with the ordinary ways between them. */
 final class Line {
-    final FlashTrust x;
+    final Device x;
 
     Line(int n) {
-        x = new FlashTrust(n);
+        this(new Device(n));
+    }
+
+    Line(Device device) {
+        x = device;
         x.boot();
     }
 

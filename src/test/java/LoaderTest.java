@@ -29,7 +29,7 @@ public final class LoaderTest {
     }
 
     private static void bootOfTheFactory() {
-        FlashTrust x = new FlashTrust(10);
+        Device x = new Device(10);
         Due.is("test before boot", x.test(true), STATE);
         Due.is("boot", x.boot(), 1);
         Due.is("RUNS", x.told(1), 1);
@@ -41,7 +41,7 @@ public final class LoaderTest {
 
     private static void passed() {
         Line line = ready(40, 130);
-        FlashTrust x = line.x;
+        Device x = line.x;
         Due.is("the old one RUNS", x.told(1), 1);
         Due.is("boot", x.boot(), 2);
         line.isTold("on trial", 0, 2, 1, 0, 1, 40, 3, 2, 130, 4, 12, 11, -1, 0, 0);
@@ -56,7 +56,7 @@ public final class LoaderTest {
 
     private static void notPassed() {
         Line line = ready(40, 130);
-        FlashTrust x = line.x;
+        Device x = line.x;
         x.boot();
         Due.is("test", x.test(false), 0);
         line.isTold("nothing RUNS", 0, 0, 0, 0, 1, 40, 0, 0, 0, 5, 13, 12, -1, 0, 0);
@@ -68,7 +68,7 @@ public final class LoaderTest {
 
     private static void bootOfATrial() {
         Line line = ready(40, 130);
-        FlashTrust x = line.x;
+        Device x = line.x;
         x.boot();
         Due.is("it is tried once", x.boot(), 1);
         line.isTold("went back", 0, 1, 0, 0, 1, 40, 0, 0, 0, 5, 13, 12, -1, 0, 0);
@@ -78,7 +78,7 @@ public final class LoaderTest {
 
     private static void statesOnFlash() {
         Line line = ready(40, 130);
-        FlashTrust x = line.x;
+        Device x = line.x;
         long old = Bytes.factoryProgram(40).digest();
         long next = Bytes.program(130, 5).digest();
         Bytes sector8 = Bytes.state(1, new int[] {0, 1, 40, 0, 0, 0}, old, 0)
@@ -95,7 +95,7 @@ public final class LoaderTest {
 
     private static void statesGoRound() {
         Line line = new Line(40);
-        FlashTrust x = line.x;
+        Device x = line.x;
         for (int version = 2; version <= 5; version++) {
             x.clear();
             Due.is("READY " + version, line.load(version, 33, version), 0);
@@ -112,7 +112,7 @@ public final class LoaderTest {
 
     private static void cutBoot() {
         Line line = ready(40, 130);
-        FlashTrust x = line.x;
+        Device x = line.x;
         x.power(0, 0);
         Due.is("cut ahead of TRIED", x.boot(), DOWN);
         line.isTold("DOWN", 1, 0, 0, 0, 1, 40, 2, 2, 130, 3, 12, 11, -1, 0, 0);
@@ -130,7 +130,7 @@ public final class LoaderTest {
     private static void cutTest() {
         for (int kind = 0; kind < 2; kind++) {
             Line line = ready(40, 130);
-            FlashTrust x = line.x;
+            Device x = line.x;
             x.boot();
             x.power(kind, 0);
             Due.is("test", x.test(true), DOWN);
@@ -150,7 +150,7 @@ public final class LoaderTest {
         int[] masks = {-1, 0, 0x00FF00FF, 0x7FFFFFFF};
         for (int mask : masks) {
             Line line = ready(40, 130);
-            FlashTrust x = line.x;
+            Device x = line.x;
             x.boot();
             x.test(true);
             x.clear();
@@ -169,7 +169,7 @@ public final class LoaderTest {
 
     private static void slotGoneAtReady() {
         Line line = ready(40, 130);
-        FlashTrust x = line.x;
+        Device x = line.x;
         x.image(3, 70, 6);
         x.power(4, 0);
         Due.is("cut ahead of the other IMAGES", line.toPieces(2), DOWN);
@@ -191,7 +191,7 @@ public final class LoaderTest {
         int[] lengths = {1, 31, 32, 33, 63, 64, 65, 96, 97, 128, 129, 1023, 1024};
         for (int length : lengths) {
             Line line = new Line(40);
-            FlashTrust x = line.x;
+            Device x = line.x;
             x.image(2, length, 77);
             line.toPieces(1);
             int before = x.told(10);
@@ -208,7 +208,7 @@ public final class LoaderTest {
 
     private static void wrongLengths() {
         Line line = new Line(40);
-        FlashTrust x = line.x;
+        Device x = line.x;
         x.image(2, 130, 5);
         line.toPieces(1);
         Due.is("an empty one", x.answer(), -17);
@@ -231,7 +231,7 @@ public final class LoaderTest {
 
     private static void wrongProgram() {
         Line line = new Line(40);
-        FlashTrust x = line.x;
+        Device x = line.x;
         x.image(2, 70, 5);
         line.toPieces(1);
         x.piece(2, 0);
@@ -255,7 +255,7 @@ public final class LoaderTest {
 
     private static void resumed() {
         Line line = new Line(40);
-        FlashTrust x = line.x;
+        Device x = line.x;
         x.image(2, 200, 5);
         line.toPieces(1);
         int erasings = x.told(11);
@@ -279,7 +279,7 @@ public final class LoaderTest {
     /** Byte i of seed 248 is 255 at i = 1 alone, so a program of two bytes ends with a 255. */
     private static void lastBytesAre255() {
         Line line = new Line(40);
-        FlashTrust x = line.x;
+        Device x = line.x;
         x.image(2, 2, 248);
         line.toPieces(1);
         x.piece(2, 0);
@@ -303,7 +303,7 @@ public final class LoaderTest {
 
     private static void otherImageWhileLoading() {
         Line line = new Line(40);
-        FlashTrust x = line.x;
+        Device x = line.x;
         x.image(2, 200, 5);
         line.toPieces(1);
         x.piece(2, 0);
@@ -323,7 +323,7 @@ public final class LoaderTest {
 
     private static void backToSlotZero() {
         Line line = ready(1024, 130);
-        FlashTrust x = line.x;
+        Device x = line.x;
         x.boot();
         x.test(true);
         Due.is("the factory's program is there", x.flash(17, 127), (7 * 1023 + 3) & 255);

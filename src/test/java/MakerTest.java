@@ -18,7 +18,7 @@ public final class MakerTest {
     }
 
     private static void plan() {
-        FlashTrust x = new FlashTrust(1);
+        Device x = new Device(1);
         Due.is("plan(0, 1, 1)", x.plan(0, 1, 1), 1);
         Due.is("five keys", x.plan(3, 0xF800, 5), 1);
         Due.is("no key", x.plan(0, 0, 1), BAD);
@@ -37,7 +37,7 @@ public final class MakerTest {
     }
 
     private static void images() {
-        FlashTrust x = new FlashTrust(1);
+        Device x = new Device(1);
         Due.is("VERSION 0", x.image(0, 5, 5), BAD);
         Due.is("VERSION 65536", x.image(65536, 5, 5), BAD);
         Due.is("LENGTH 0", x.image(1, 0, 5), BAD);
@@ -53,7 +53,7 @@ public final class MakerTest {
     }
 
     private static void clear() {
-        FlashTrust x = new FlashTrust(1);
+        Device x = new Device(1);
         Due.is("clear of none", x.clear(), 0);
         x.image(5, 64, 1);
         x.image(6, 64, 1);
@@ -65,7 +65,7 @@ public final class MakerTest {
     }
 
     private static void wrongDrafts() {
-        FlashTrust x = new FlashTrust(1);
+        Device x = new Device(1);
         Due.is("role -1", x.draft(-1, 1, 1), BAD);
         Due.is("role 4", x.draft(4, 1, 1), BAD);
         Due.is("VERSION 0", x.draft(1, 0, 1), BAD);
@@ -79,7 +79,7 @@ public final class MakerTest {
     }
 
     private static void draftOfRoot() {
-        FlashTrust x = new FlashTrust(1);
+        Device x = new Device(1);
         Due.is("the factory's", x.draft(0, 258, 0x01020304), 21);
         x.show();
         Bytes body = new Bytes().num(258, 2).num(0x01020304, 4)
@@ -93,7 +93,7 @@ public final class MakerTest {
     }
 
     private static void draftsThatTell() {
-        FlashTrust x = new FlashTrust(1);
+        Device x = new Device(1);
         x.draft(2, 4, 9);
         x.show();
         Bytes list = Bytes.told(4, 9, 1, 0);
@@ -117,7 +117,7 @@ public final class MakerTest {
     }
 
     private static void draftOfImages() {
-        FlashTrust x = new FlashTrust(1);
+        Device x = new Device(1);
         Due.is("none", x.draft(3, 1, 1), 7);
         x.image(300, 1, 200);
         Due.is("one", x.draft(3, 1, 1), 19);
@@ -135,7 +135,7 @@ public final class MakerTest {
     }
 
     private static void sign() {
-        FlashTrust x = new FlashTrust(1);
+        Device x = new Device(1);
         Due.is("no DRAFT", x.sign(3), BAD);
         x.draft(1, 1, 1);
         Due.is("key -1", x.sign(-1), BAD);
@@ -152,7 +152,7 @@ public final class MakerTest {
     }
 
     private static void tableIsFull() {
-        FlashTrust x = new FlashTrust(1);
+        Device x = new Device(1);
         for (int version = 1; version <= 25; version++) {
             x.draft(1, version, 1);
             for (int key = 0; key < 16; key++) {
@@ -170,7 +170,7 @@ public final class MakerTest {
     }
 
     private static void show() {
-        FlashTrust x = new FlashTrust(1);
+        Device x = new Device(1);
         Due.is("no DRAFT", x.show(), BAD);
         x.feed(1, 2, 3, 4, 5);
         Due.is("no DRAFT, with a tape", x.show(), BAD);
@@ -182,7 +182,7 @@ public final class MakerTest {
     }
 
     private static void pieces() {
-        FlashTrust x = new FlashTrust(1);
+        Device x = new Device(1);
         x.image(4, 130, 201);
         x.image(9, 64, -7);
         x.image(10, 1024, 13);
@@ -202,7 +202,7 @@ public final class MakerTest {
         Due.is("piece 16 of 1,024 bytes", x.piece(10, 16), BAD);
     }
 
-    private static void isPiece(FlashTrust x, int version, int k, Bytes program) {
+    private static void isPiece(Device x, int version, int k, Bytes program) {
         Bytes piece = new Bytes();
         for (int i = 64 * k; i < Math.min(64 * k + 64, program.size()); i++) {
             piece.ones(program.all.get(i));

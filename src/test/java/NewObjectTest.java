@@ -22,7 +22,7 @@ public final class NewObjectTest {
     }
 
     private static void isFactory(int n, int length) {
-        FlashTrust x = new FlashTrust(n);
+        Device x = new Device(n);
         String name = "new FlashTrust(" + n + ")";
         int[] told = {0, 0, 0, 0, 1, length, 0, 0, 0, 1, 0, 0, -1, 0, 0};
         for (int i = 0; i < told.length; i++) {
@@ -45,7 +45,7 @@ public final class NewObjectTest {
     }
 
     private static void factoryRoot() {
-        FlashTrust x = new FlashTrust(50);
+        Device x = new Device(50);
         Due.is("VERSION", x.trusted(0, 0, 0), 1);
         Due.is("END", x.trusted(0, 1, 0), 1000);
         Due.is("no keys of its own", x.trusted(0, 2, 0), 0);
@@ -65,7 +65,7 @@ public final class NewObjectTest {
     }
 
     private static void outside() {
-        FlashTrust x = new FlashTrust(50);
+        Device x = new Device(50);
         Due.is("told(-1)", x.told(-1), BAD);
         Due.is("told(15)", x.told(15), BAD);
         Due.is("trusted of role -1", x.trusted(-1, 0, 0), BAD);

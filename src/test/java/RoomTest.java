@@ -16,7 +16,7 @@ public final class RoomTest {
 
     private static long junk(int seed) {
         Random random = new Random(seed);
-        Line line = new Line(EDGES[random.nextInt(EDGES.length)]);
+        Line line = new Line(Device.withoutEnd(EDGES[random.nextInt(EDGES.length)]));
         long sum = 0;
         for (int i = 0; i < 2000; i++) {
             sum = 31 * sum + (random.nextInt(20) == 0 ? way(line, random) : call(line.x, random));
@@ -44,7 +44,7 @@ public final class RoomTest {
         }
     }
 
-    private static long call(FlashTrust x, Random r) {
+    private static long call(Device x, Random r) {
         switch (r.nextInt(24)) {
             case 0: return x.feed(r.nextInt(), edge(r), edge(r), edge(r), edge(r));
             case 1: return x.end(edge(r));
@@ -77,9 +77,10 @@ public final class RoomTest {
         long most = Long.MAX_VALUE;
         // What the measuring itself makes goes with the first rounds.
         for (int i = 0; i < 5; i++) {
-            Line line = new Line(1024);
+            FlashTrust x = new FlashTrust(1024);
+            x.boot();
             long before = bean.getCurrentThreadAllocatedBytes();
-            int said = line.x.image(2, 1024, 5) + line.x.begin(10) + line.x.refuse() + dearest(line.x);
+            int said = x.image(2, 1024, 5) + x.begin(10) + x.refuse() + dearest(x);
             long made = bean.getCurrentThreadAllocatedBytes() - before;
             Due.is("what the calls answered", said, 1 + 1 + 2 + 2);
             most = Math.min(most, made);

@@ -10,7 +10,7 @@ public final class TapeTest {
     }
 
     private static void feedAndByteOf() {
-        FlashTrust x = new FlashTrust(1);
+        Device x = new Device(1);
         Due.is("byteOf of an empty tape", x.byteOf(0), FlashTrust.BAD);
         Due.is("feed", x.feed(0x01020304, -1, 0x80000000, 0, 0x7F00FF10), 20);
         new Bytes().num(0x01020304, 4).num(-1, 4).num(0x80000000, 4).num(0, 4).num(0x7F00FF10, 4)
@@ -24,7 +24,7 @@ public final class TapeTest {
     }
 
     private static void feedIsFull() {
-        FlashTrust x = new FlashTrust(1);
+        Device x = new Device(1);
         for (int i = 1; i <= 15; i++) {
             Due.is("feed " + i, x.feed(i, i, i, i, i), 20 * i);
         }
@@ -39,7 +39,7 @@ public final class TapeTest {
     }
 
     private static void end() {
-        FlashTrust x = new FlashTrust(1);
+        Device x = new Device(1);
         Due.is("end of an empty tape", x.end(0), FlashTrust.BAD);
         x.feed(1, 2, 3, 4, 5);
         x.feed(6, 7, 8, 9, 10);
@@ -58,7 +58,7 @@ public final class TapeTest {
     }
 
     private static void spoil() {
-        FlashTrust x = new FlashTrust(1);
+        Device x = new Device(1);
         Due.is("spoil of an empty tape", x.spoil(0, 1), FlashTrust.BAD);
         x.feed(0x11223344, 0, 0, 0, 0);
         Due.is("spoil(1, 255)", x.spoil(1, 255), 0xDD);
@@ -74,7 +74,7 @@ public final class TapeTest {
     }
 
     private static void digest() {
-        FlashTrust x = new FlashTrust(1);
+        Device x = new Device(1);
         Due.is("digest of nothing", x.digest(), 1469598103934665603L);
         x.feed(0xFF000000, 0, 0, 0, 0);
         x.end(1);

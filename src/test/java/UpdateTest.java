@@ -24,7 +24,7 @@ public final class UpdateTest {
     }
 
     private static void begin() {
-        FlashTrust x = new FlashTrust(30);
+        Device x = new Device(30);
         Due.is("nothing RUNS", x.begin(0), STATE);
         Due.is("BAD ahead of STATE", x.begin(-1), BAD);
         x.boot();
@@ -49,7 +49,7 @@ public final class UpdateTest {
 
     private static void whole() {
         Line line = new Line(40);
-        FlashTrust x = line.x;
+        Device x = line.x;
         x.image(2, 130, 5);
         Due.is("begin", x.begin(10), 1);
         Due.is("refuse", x.refuse(), 2);
@@ -80,7 +80,7 @@ public final class UpdateTest {
 
     private static void awaits() {
         Line line = new Line(40);
-        FlashTrust x = line.x;
+        Device x = line.x;
         isAwaited(x, "without an UPDATE", 0, 0, 0);
         Due.is("awaits(-1)", x.awaits(-1), BAD);
         Due.is("awaits(3)", x.awaits(3), BAD);
@@ -104,14 +104,14 @@ public final class UpdateTest {
         isAwaited(x, "given up", 0, 0, 0);
     }
 
-    private static void isAwaited(FlashTrust x, String what, int awaited, int version, int piece) {
+    private static void isAwaited(Device x, String what, int awaited, int version, int piece) {
         Due.is(what + ", awaits(0)", x.awaits(0), awaited);
         Due.is(what + ", awaits(1)", x.awaits(1), version);
         Due.is(what + ", awaits(2)", x.awaits(2), piece);
     }
 
     private static void stop() {
-        FlashTrust x = new FlashTrust(9);
+        Device x = new Device(9);
         Due.is("no UPDATE", x.stop(), 0);
         x.boot();
         x.begin(5);
@@ -126,7 +126,7 @@ public final class UpdateTest {
 
     private static void refusals() {
         Line line = new Line(40);
-        FlashTrust x = line.x;
+        Device x = line.x;
         Due.is("nothing is AWAITED", x.refuse(), STATE);
         x.begin(999);
         Due.is("ROOT, END above the clock", x.refuse(), 2);
@@ -152,7 +152,7 @@ public final class UpdateTest {
 
     private static void answersAndTheTape() {
         Line line = new Line(40);
-        FlashTrust x = line.x;
+        Device x = line.x;
         x.feed(1, 2, 3, 4, 5);
         Due.is("nothing is AWAITED", x.answer(), STATE);
         Due.is("the tape stays", x.byteOf(3), 1);
@@ -181,7 +181,7 @@ public final class UpdateTest {
 
     private static void rootErrors() {
         Line line = new Line(40);
-        FlashTrust x = line.x;
+        Device x = line.x;
         x.begin(10);
         Due.is("another role", line.send(1, 2, 500, 0, 1), -11);
         x.begin(10);
@@ -218,14 +218,14 @@ public final class UpdateTest {
         Due.is("among its keys, but not SIGNED", x.answer(), -12);
     }
 
-    private static int answerTo(FlashTrust x) {
+    private static int answerTo(Device x) {
         x.show();
         return x.answer();
     }
 
     private static void rootsInARow() {
         Line line = new Line(40);
-        FlashTrust x = line.x;
+        Device x = line.x;
         x.begin(10);
         for (int version = 2; version <= 5; version++) {
             Due.is("wanted", x.awaits(1), version);
@@ -249,7 +249,7 @@ public final class UpdateTest {
         for (int role = 1; role <= 2; role++) {
             for (int kind = 0; kind < 2; kind++) {
                 Line line = withTrusted();
-                FlashTrust x = line.x;
+                Device x = line.x;
                 int old = role == 1 ? 8 : 16;
                 if (kind == 1) {
                     x.plan(role, old | 0x8000, 1);
@@ -287,7 +287,7 @@ public final class UpdateTest {
 
     private static void rootLeavesTimeAndList() {
         Line line = withTrusted();
-        FlashTrust x = line.x;
+        Device x = line.x;
         x.plan(0, 0x83, 2);
         x.plan(3, 0x60, 1);
         x.begin(10);
@@ -298,7 +298,7 @@ public final class UpdateTest {
 
     private static void timeErrors() {
         Line line = new Line(40);
-        FlashTrust x = line.x;
+        Device x = line.x;
         x.image(2, 100, 1);
         line.toTime(10);
         line.offer(3, 5, 500, 5, 6);
@@ -330,7 +330,7 @@ public final class UpdateTest {
 
     private static void listErrors() {
         Line line = new Line(40);
-        FlashTrust x = line.x;
+        Device x = line.x;
         x.image(2, 100, 1);
         line.offer(3, 5, 500, 5, 6);
         line.offer(2, 5, 500, 4);
@@ -362,7 +362,7 @@ public final class UpdateTest {
 
     private static void imagesErrors() {
         Line line = new Line(40);
-        FlashTrust x = line.x;
+        Device x = line.x;
         x.image(2, 100, 1);
         x.image(3, 200, 1);
         toImages(line, 1, 500);
@@ -396,7 +396,7 @@ public final class UpdateTest {
 
     private static void trustedIsLookedAt() {
         Line line = new Line(40);
-        FlashTrust x = line.x;
+        Device x = line.x;
         x.image(2, 100, 1);
         line.toTime(10);
         line.offer(3, 1, 20, 5, 6);
@@ -422,7 +422,7 @@ public final class UpdateTest {
 
     private static void nothingNewer() {
         Line line = new Line(40);
-        FlashTrust x = line.x;
+        Device x = line.x;
         Due.is("no image", line.toPieces(1), -19);
         Due.is("the ERROR", x.told(13), 9);
         Due.is("IMAGES are KEPT", x.trusted(3, 7, 0), 0);
@@ -434,7 +434,7 @@ public final class UpdateTest {
 
     private static void onlyOtherBodiesAreKept() {
         Line line = withTrusted();
-        FlashTrust x = line.x;
+        Device x = line.x;
         int writings = x.told(10);
         line.toTime(10);
         Due.is("the same BODY by another row of keys", line.send(1, 1, 500, 3, 9), 5);
