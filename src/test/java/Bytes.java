@@ -36,6 +36,13 @@ final class Bytes {
         return this;
     }
 
+    /** The bytes from one place on, up to another that is not among them. */
+    Bytes part(int from, int to) {
+        Bytes part = new Bytes();
+        part.all.addAll(all.subList(from, to));
+        return part;
+    }
+
     int size() {
         return all.size();
     }

@@ -10,9 +10,12 @@ public final class CutCheckTest {
         bytesAheadOfTheCheckAreFree();
         otherVersionRuns();
         nothingHasAnyVersion();
-        slotOfTwoAndMore();
-        lengthAbove1024();
-        stagedLengthAbove1024();
+        slotOfTwo();
+        slotFarAboveOne();
+        lengthOf1025();
+        stagedLengthOf1025();
+        stagedLengthFarAbove1024();
+        stagedOfFour();
         stagedAboveTried();
         nothingHasNoLength();
         stagedVersionOfZero();
@@ -82,7 +85,30 @@ public final class CutCheckTest {
         return x.flash(sector, i) * 256 + x.flash(sector, i + 1);
     }
 
+    /**
+     * The STATE that is left has a number above 8 and is within all brackets, but for what is told: its slot, what is
+     * STAGED, and the LENGTH of that (-1: not looked at). So this alone decides.
+     */
+    private static void isOtherwiseJustSo(Device x, int sector, int from, String what, int slot, int staged, int length) {
+        checkFits(x, sector, from, 28);
+        long number = pair(x, sector, from) * 65536L + pair(x, sector, from + 2);
+        Due.holds(what + ", its number", number > 12 && number < 1L << 31);
+        Due.is(what + ", the slot", x.flash(sector, from + 4), slot);
+        Due.holds(what + ", the VERSION", pair(x, sector, from + 5) > 0);
+        Due.holds(what + ", the LENGTH", isLength(pair(x, sector, from + 7)));
+        int kind = x.flash(sector, from + 15);
+        Due.holds(what + ", STAGED", staged < 0 ? kind > 0 && kind <= 3 : kind == staged);
+        Due.holds(what + ", its VERSION", pair(x, sector, from + 16) > 0);
+        int stagedLength = pair(x, sector, from + 18);
+        Due.holds(what + ", its LENGTH", length < 0 ? isLength(stagedLength) : stagedLength == length);
+    }
+
+    private static boolean isLength(int length) {
+        return length >= 1 && length <= 1024;
+    }
+
     private static void bytesAheadOfTheCheckAreFree() {
+        Due.promise(19, "NONE: the CONFIRMED slot's bytes have not its DIGEST (it RUNS nothing).");
         Line line = cutInSector8(0, 590, 20, 90, -50528513);
         Device x = line.x;
         checkFits(x, 8, 32, 28);
@@ -101,6 +127,7 @@ public final class CutCheckTest {
 
     /** Its LENGTH and DIGEST stayed as they were, so the factory's program RUNS by another VERSION. */
     private static void otherVersionRuns() {
+        Due.promise(19, "Then, and else, the CONFIRMED program RUNS.");
         Line line = cutInSector8(620, 60728, 2, 137, -231425);
         Device x = line.x;
         checkFits(x, 8, 32, 28);
@@ -114,6 +141,7 @@ public final class CutCheckTest {
     }
 
     private static void nothingHasAnyVersion() {
+        Due.promise(21, "VERSIONS of 1 on (of NOTHING any)");
         Line line = cutInSector9(21417, 1, 0, -5889);
         checkFits(line.x, 9, 0, 28);
         line.isTold("it counts", 1, 0, 0, 1, 22441, 1, 0, 23, 0, 1507333);
@@ -121,28 +149,68 @@ public final class CutCheckTest {
         line.isTold("nothing is written", 0, 0, 0, 1, 22441, 1, 0, 23, 0, 1507333);
     }
 
-    private static void slotOfTwoAndMore() {
+    private static void slotOfTwo() {
+        Due.promise(21, "a slot 0 or 1");
+        Line line = cutInSector8(41, 23909, 12, 180, -3);
+        isOtherwiseJustSo(line.x, 8, 32, "but for its slot", 2, -1, -1);
+        line.isTold("it does not count", 1, 0, 0, 0, 1, 41, 1, 23909, 12, 8);
+        Due.is("boot", line.x.boot(), 1);
+    }
+
+    private static void slotFarAboveOne() {
+        Due.promise(21, "a slot 0 or 1");
         Line line = cutInSector8(40, 14434, 1, 39, -36);
         checkFits(line.x, 8, 96, 28);
         Due.is("the slot", line.x.flash(8, 96 + 4), 35);
         staysLoading(line, 40, 14434);
     }
 
-    private static void lengthAbove1024() {
+    private static void lengthOf1025() {
+        Due.promise(21, "LENGTHS of 1 .. 1,024, of NOTHING 0");
         Line line = cutInSector8(1024, 32375, 1, 6, -240898);
         checkFits(line.x, 8, 96, 28);
         Due.is("the LENGTH", pair(line.x, 8, 96 + 7), 1025);
         staysLoading(line, 1024, 32375);
     }
 
-    private static void stagedLengthAbove1024() {
+    /** STATE 2 is LOADING an image of 1,024 bytes, those behind it another one; the erasing for STATE 9 is cut. */
+    private static void stagedLengthOf1025() {
+        Due.promise(21, "LENGTHS of 1 .. 1,024, of NOTHING 0");
+        Line line = new Line(40);
+        Device x = line.x;
+        x.image(46531, 1024, 38);
+        Due.is("STATE 2", line.toPieces(1), 5);
+        line.isTold("LENGTH 1,024 counts", 0, 1, 0, 0, 1, 40, 1, 46531, 1024, 2);
+        x.stop();
+        x.clear();
+        x.image(2, 20, 9);
+        loadWrongly(line, 2, 3);
+        // The slot takes eight erasings.
+        x.power(8, -16780545);
+        Due.is("cut", line.toPieces(2), DOWN);
+        isOtherwiseJustSo(x, 8, 32, "but for the LENGTH of what is STAGED", 0, 1, 1025);
+        line.isTold("it does not count", 1, 0, 0, 0, 1, 40, 0, 0, 0, 8);
+        Due.is("boot", x.boot(), 1);
+    }
+
+    private static void stagedLengthFarAbove1024() {
+        Due.promise(21, "LENGTHS of 1 .. 1,024, of NOTHING 0");
         Line line = cutInSector8(40, 60321, 1, 37, -14548993);
         checkFits(line.x, 8, 96, 28);
         Due.is("LENGTH of what is STAGED", pair(line.x, 8, 96 + 18), 0xDE01);
         staysLoading(line, 40, 60321);
     }
 
+    private static void stagedOfFour() {
+        Due.promise(21, "STAGED 0 .. 3");
+        Line line = cutInSector9(58362, 1024, 41, -67111937);
+        isOtherwiseJustSo(line.x, 9, 0, "but for what is STAGED", 1, 4, -1);
+        line.isTold("it does not count", 1, 0, 0, 1, 58362, 1024, 1, 58363, 20, 12);
+        Due.is("boot", line.x.boot(), 58362);
+    }
+
     private static void stagedAboveTried() {
+        Due.promise(21, "STAGED 0 .. 3");
         Line line = cutInSector8(1024, 10772, 1, 0, -67145473);
         checkFits(line.x, 8, 96, 28);
         Due.is("STAGED", line.x.flash(8, 96 + 15), 5);
@@ -157,6 +225,7 @@ public final class CutCheckTest {
     }
 
     private static void nothingHasNoLength() {
+        Due.promise(21, "LENGTHS of 1 .. 1,024, of NOTHING 0");
         Line line = cutInSector9(22967, 1, 66, -226049);
         checkFits(line.x, 9, 64, 28);
         Due.is("STAGED", line.x.flash(9, 64 + 15), 0);
@@ -166,6 +235,7 @@ public final class CutCheckTest {
     }
 
     private static void stagedVersionOfZero() {
+        Due.promise(21, "VERSIONS of 1 on (of NOTHING any)");
         Line line = cutInSector9(40403, 1, 2, -50528257);
         checkFits(line.x, 9, 0, 28);
         Due.is("STAGED", line.x.flash(9, 15), 3);
@@ -176,6 +246,7 @@ public final class CutCheckTest {
 
     /** First a STATE in sector 8 comes to count, then one of the same number is left in sector 9, too. */
     private static void likeNumbers() {
+        Due.promise(21, "the one of the greatest number counts (of like ones the first)");
         Line line = new Line(40);
         Device x = line.x;
         x.image(41722, 1, 90);
@@ -202,6 +273,7 @@ public final class CutCheckTest {
     }
 
     private static void timeOfAGreaterNumber() {
+        Due.promise(22, "of two the greater number (of like ones the first sector), counts");
         Line line = new Line(40);
         Device x = line.x;
         Due.is("the first", sendTimeAlone(line, 100, 1079786), 3);
@@ -223,6 +295,7 @@ public final class CutCheckTest {
 
     /** The ROOT's bytes are so chosen that IMAGES of one image are left of them. */
     private static void rootOfAnotherRole() {
+        Due.promise(22, "and that has a DOCUMENT of its role (or, but for ROOT, none)");
         Line line = new Line(40);
         Device x = line.x;
         x.plan(0, 1, 1);

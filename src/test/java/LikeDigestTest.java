@@ -20,6 +20,7 @@ public final class LikeDigestTest {
 
     /** A key has SIGNED what has the DIGEST that it signed; but KEPT is what is another BODY. */
     private static void timeIsKeptByItsBody() {
+        Due.promise(14, "KEPT, if its BODY is another one than the TRUSTED one's.");
         Bytes first = Bytes.told(37, 1863, 2, list(2, 124602).digest());
         Bytes second = Bytes.told(41, 554, 2, list(2, 69927).digest());
         Due.is("the DIGEST is the same", second.digest(), first.digest());
@@ -53,6 +54,7 @@ public final class LikeDigestTest {
     }
 
     private static void listOfAnotherVersion() {
+        Due.promise(14, "its role (2); VERSION as TIME tells (3)");
         Line line = new Line(40);
         Device x = line.x;
         draftFirstList(line);
@@ -66,6 +68,7 @@ public final class LikeDigestTest {
     }
 
     private static void trustedListOfAnotherVersion() {
+        Due.promise(14, "(What is TRUSTED already and looked at as if it came may so be an error, too.)");
         Line line = new Line(40);
         Device x = line.x;
         draftFirstList(line);
@@ -103,6 +106,7 @@ public final class LikeDigestTest {
     }
 
     private static void imagesOfAnotherVersion() {
+        Due.promise(14, "IMAGES: 1; 5; 2; 3 (as LIST tells); 4.");
         Line line = new Line(40);
         Device x = line.x;
         draftFirstImages(line);
@@ -115,6 +119,7 @@ public final class LikeDigestTest {
     }
 
     private static void trustedImagesOfAnotherVersion() {
+        Due.promise(14, "(What is TRUSTED already and looked at as if it came may so be an error, too.)");
         Line line = new Line(40);
         Device x = line.x;
         draftFirstImages(line);
