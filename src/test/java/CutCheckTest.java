@@ -19,6 +19,7 @@ public final class CutCheckTest {
         stagedAboveTried();
         nothingHasNoLength();
         stagedVersionOfZero();
+        stagedVersionOfOne();
         likeNumbers();
         timeOfAGreaterNumber();
         rootOfAnotherRole();
@@ -242,6 +243,21 @@ public final class CutCheckTest {
         Due.is("its VERSION", pair(line.x, 9, 16), 0);
         line.isTold("it does not count", 1, 0, 0, 1, 40403, 1, 1, 40404, 20, 12);
         Due.is("boot", line.x.boot(), 40403);
+    }
+
+    /** What is left of a NOTHING: LOADING, and READY, of VERSION 1. */
+    private static void stagedVersionOfOne() {
+        Due.promise(21, "VERSIONS of 1 on (of NOTHING any)");
+        Line line = cutInSector9(43157, 24, 77, -16908545);
+        checkFits(line.x, 9, 64, 28);
+        line.isTold("LOADING counts", 1, 0, 0, 1, 43415, 280, 1, 1, 513, 66055);
+        Due.is("its program is not there", line.x.boot(), NONE);
+        line.isTold("nothing is written", 0, 0, 0, 1, 43415, 280, 1, 1, 513, 66055);
+        line = cutInSector9(32163, 24, 220, -33685761);
+        checkFits(line.x, 9, 0, 28);
+        line.isTold("READY counts", 1, 0, 0, 1, 32163 | 0x102, 536, 2, 1, 514, 66055);
+        Due.is("neither program is there", line.x.boot(), NONE);
+        line.isTold("TRIED, then NOTHING", 0, 0, 0, 1, 32163 | 0x102, 536, 0, 0, 0, 66057);
     }
 
     /** First a STATE in sector 8 comes to count, then one of the same number is left in sector 9, too. */

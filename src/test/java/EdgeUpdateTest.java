@@ -11,6 +11,7 @@ public final class EdgeUpdateTest {
         beginWantsAProgramThatRuns();
         beginWhileOneGoesOn();
         beginWhenDown();
+        answerEmptiesTheTape();
         answerOfNothingAwaited();
         answerWhenDown();
         answerWhenPowerFails();
@@ -115,6 +116,32 @@ public final class EdgeUpdateTest {
         isIdle("DOWN", x);
         x.boot();
         Due.is("behind a boot", x.begin(0), 1);
+    }
+
+    private static void answerEmptiesTheTape() {
+        Due.promise(14, "The tape, which is empty then, is an ANSWER: what is AWAITED then; - 10 less an ERROR");
+        int[] next = {1, 3, 4, 5, 5, 0};
+        for (int awaited = 1; awaited <= 6; awaited++) {
+            Line line = upTo(awaited);
+            Due.is("what " + awaited + " wants", send(line, awaited), next[awaited - 1]);
+            Due.is("what is AWAITED", line.x.awaits(0), next[awaited - 1]);
+            isEmpty(line.x);
+            line = upTo(awaited);
+            for (int i = 0; i < 15; i++) {
+                line.x.feed(i, 0, 0, 0, 0);
+            }
+            Due.is("a full tape for " + awaited, line.x.answer(), awaited < 5 ? -11 : -17);
+            isEmpty(line.x);
+            line = upTo(awaited);
+            Due.is("an empty tape for " + awaited, line.x.answer(), awaited < 5 ? -11 : -17);
+            isEmpty(line.x);
+        }
+    }
+
+    private static void isEmpty(Device x) {
+        Due.is("no byte", x.byteOf(0), BAD);
+        Due.is("the DIGEST of none", x.digest(), 1469598103934665603L);
+        Due.is("feed", x.feed(1, 2, 3, 4, 5), 20);
     }
 
     private static void answerOfNothingAwaited() {
