@@ -17,6 +17,7 @@ public final class EdgeUpdateTest {
         answerWhenPowerFails();
         errorsEndIt();
         wrongProgramEndsIt();
+        wrongProgramIsCut();
         refusals();
         refuseOfNothingAwaited();
         awaitsNumbers();
@@ -287,6 +288,26 @@ public final class EdgeUpdateTest {
         line.isTold("NOTHING", 0, 1, 0, 0, 1, 40, 0, 0, 0, 3);
         Bytes.state(3, new int[] {0, 1, 40, 0, 0, 0}, Bytes.factoryProgram(40).digest(), 0)
                 .isOnFlash("0s for what is STAGED", x, 8, 64);
+    }
+
+    /** A page of the PIECE, then the STATE NOTHING; power fails in the one, in the other, or behind both. */
+    private static void wrongProgramIsCut() {
+        Due.promise(14, "nothing goes on of what was being done");
+        for (int n = 0; n <= 2; n++) {
+            Line line = withImage(32);
+            Device x = line.x;
+            line.toPieces(1);
+            x.piece(2, 0);
+            x.spoil(31, 1);
+            x.power(n, -1);
+            Due.is("ERROR 8 with " + n, x.answer(), n < 2 ? DOWN : -18);
+            Due.is("the last ERROR", x.told(13), n < 2 ? 0 : 8);
+            Due.is("STAGED", x.told(6), n < 2 ? 1 : 0);
+            isIdle("behind it", x);
+            Due.is("the tape is empty", x.byteOf(0), BAD);
+            Due.is("boot", x.boot(), 1);
+            Due.is("the last ERROR stays", x.told(13), n < 2 ? 0 : 8);
+        }
     }
 
     private static void refusals() {
