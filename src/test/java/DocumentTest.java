@@ -144,8 +144,8 @@ public final class DocumentTest {
     }
 
     private static void rootRoles() {
-        Due.promise(14, "for each role its THRESHOLD (1), how many keys (1, at most 5), and these (1 each, rising, "
-                + "0 .. 15); the THRESHOLD is 1 .. their number");
+        Due.promise(14, "Then ROOT: for each role its THRESHOLD (1), how many keys (1, at most 5), and these (1 each, "
+                + "rising, 0 .. 15); the THRESHOLD is 1 .. their number");
         int[][] good = {{1, 1, 0}, {1, 1, 15}, {1, 2, 0, 15}, {2, 2, 14, 15}, {4, 4, 1, 2, 3, 4}, {1, 5, 0, 1, 2, 3, 4},
             {5, 5, 11, 12, 13, 14, 15}};
         int[][] wrong = {{0, 0}, {1, 0}, {0, 1, 0}, {2, 1, 0}, {255, 1, 0}, {1, 1, 16}, {1, 1, 255}, {0, 2, 0, 1},

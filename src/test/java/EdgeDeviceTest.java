@@ -122,7 +122,8 @@ public final class EdgeDeviceTest {
 
     /** TIME takes an erasing and a writing. */
     private static void powerJustEnough() {
-        Due.promise(18, "so many writings and erasings more are done, the one behind them is not, and power fails");
+        Due.promise(18, "A CUT is told ahead: so many writings and erasings more are done, the one behind them is not, and "
+                + "power fails");
         for (int n = 0; n <= 3; n++) {
             Line line = new Line(40);
             line.toTime(9);
@@ -483,7 +484,7 @@ public final class EdgeDeviceTest {
     }
 
     private static void trustedOfNone() {
-        Due.promise(22, "(without one: 0 NONE, 3 the number, all else BAD)");
+        Due.promise(22, "Of the TRUSTED DOCUMENT of a role (without one: 0 NONE, 3 the number, all else BAD)");
         Device x = new Device(40);
         for (int role = 1; role < 4; role++) {
             for (int what = 0; what <= 9; what++) {

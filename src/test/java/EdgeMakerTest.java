@@ -118,7 +118,7 @@ public final class EdgeMakerTest {
     }
 
     private static void imageVersions() {
-        Due.promise(6, "its VERSION (1 .. 65,535), above the last one's");
+        Due.promise(6, "The PLAN's image: its VERSION (1 .. 65,535), above the last one's");
         int[] good = {1, 2, 32767, 32768, 65534, 65535};
         for (int version : good) {
             Device x = new Device(1);
@@ -171,7 +171,8 @@ public final class EdgeMakerTest {
     }
 
     private static void imageBytes() {
-        Due.promise(6, "its byte i is the lowest 8 bits of seed + 7 i + (i shifted right by 6) times the seed");
+        Due.promise(6, "its byte i is the lowest 8 bits of seed + 7 i + (i shifted right by 6) times the seed: how many it "
+                + "has.");
         int[] seeds = {0, 1, 255, 256, -1, 1000003, LEAST, MOST};
         for (int seed : seeds) {
             Device x = new Device(1);
@@ -182,6 +183,7 @@ public final class EdgeMakerTest {
                 long want = seed + 7L * i + (long) (i / 64) * seed & 255;
                 Due.is("seed " + seed + ", byte " + i, x.byteOf(i % 64), want);
             }
+            Due.is("how many there are", x.image(8, 1, seed), 2);
         }
     }
 
@@ -305,7 +307,8 @@ public final class EdgeMakerTest {
     }
 
     private static void draftTellsOneWithout() {
-        Due.promise(8, "the IMAGES that were drafted last (VERSION 1, DIGEST 0 without)");
+        Due.promise(8, "TIME and LIST tell of what stands in the PLAN as the LIST, the IMAGES that were drafted last "
+                + "(VERSION 1, DIGEST 0 without)");
         Device x = new Device(1);
         x.draft(0, 8, 8);
         x.draft(1, 8, 8);
@@ -370,7 +373,7 @@ public final class EdgeMakerTest {
     }
 
     private static void signOnceMore() {
-        Due.promise(9, "and comes among its keys, if it is not: how many it has");
+        Due.promise(9, "A key SIGNS the DRAFT's BODY, and comes among its keys, if it is not: how many it has");
         Device x = new Device(1);
         x.draft(1, 1, 1);
         Due.is("sign(3)", x.sign(3), 1);
@@ -473,7 +476,8 @@ public final class EdgeMakerTest {
     }
 
     private static void pieceOfNoNumber() {
-        Due.promise(11, "PIECE k of the image of a VERSION of the PLAN comes to the tape, instead of what is there");
+        Due.promise(11, "PIECE k of the image of a VERSION of the PLAN comes to the tape, instead of what is there: how "
+                + "many bytes.");
         int[] lengths = {1, 63, 64, 65, 127, 128, 129, 960, 961, 1023, 1024};
         for (int length : lengths) {
             Device x = new Device(1);

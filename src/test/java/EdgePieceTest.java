@@ -130,7 +130,7 @@ public final class EdgePieceTest {
     }
 
     private static void stagedOfAnotherVersion() {
-        Due.promise(14, "if what is STAGED (4) has just its VERSION, LENGTH and DIGEST");
+        Due.promise(14, "Else, if what is STAGED (4) has just its VERSION, LENGTH and DIGEST");
         for (int version = 2; version <= 4; version++) {
             for (int ready = 0; ready < 2; ready++) {
                 Line line = staged(70, 5, ready == 1);

@@ -52,7 +52,7 @@ public final class EdgeRoleTest {
     }
 
     private static void rootRefusedByItsEnd() {
-        Due.promise(15, "REFUSED: it goes on to TIME, if the TRUSTED ROOT has not ended (4).");
+        Due.promise(15, "ROOT: REFUSED: it goes on to TIME, if the TRUSTED ROOT has not ended (4).");
         int[] clocks = {0, 998, 999, 1000, 1001, MOST};
         for (int clock : clocks) {
             Device x = new Line(9).x;
@@ -90,7 +90,7 @@ public final class EdgeRoleTest {
     }
 
     private static void rootKeysOfBoth() {
-        Due.promise(14, "HAS the role ROOT of the TRUSTED one, and of itself (2)");
+        Due.promise(14, "HAS the role ROOT of the TRUSTED one, and of itself (2): KEPT; AWAITS the next.");
         for (int old = 0; old <= 3; old++) {
             for (int own = 0; own <= 3; own++) {
                 Line line = new Line(9);
@@ -100,6 +100,9 @@ public final class EdgeRoleTest {
                 int[] keys = join(range(0, old), range(8, 8 + own));
                 Due.is(old + " keys of the TRUSTED one, " + own + " of its own", line.send(0, 2, 500, keys), want);
                 Due.is("TRUSTED", line.x.trusted(0, 0, 0), want == 1 ? 2 : 1);
+                Due.is("KEPT", line.x.trusted(0, 3, 0), want == 1 ? 1 : 0);
+                Due.is("the next is AWAITED", line.x.awaits(0), want == 1 ? 1 : 0);
+                Due.is("its VERSION", line.x.awaits(1), want == 1 ? 3 : 0);
             }
         }
     }

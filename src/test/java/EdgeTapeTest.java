@@ -63,16 +63,19 @@ public final class EdgeTapeTest {
     }
 
     private static void feedHighestFirst() {
-        Due.promise(2, "Twenty bytes come behind the tape, the highest of each number first");
+        Due.promise(2, "Twenty bytes come behind the tape, the highest of each number first: how many it has.");
         int[] numbers = {LEAST, MOST, -1, 0, 0x80FF0001};
         Device x = new Device(1);
         Due.is("feed", x.feed(numbers[0], numbers[1], numbers[2], numbers[3], numbers[4]), 20);
         new Bytes().ones(128, 0, 0, 0, 127, 255, 255, 255, 255, 255, 255, 255, 0, 0, 0, 0, 128, 255, 0, 1)
                 .isOnTape("the least and the greatest", x);
+        Due.is("feed once more", x.feed(1, 2, 3, 4, 5), 40);
+        Due.is("the first byte of it", x.byteOf(20), 0);
+        Due.is("the last one", x.byteOf(39), 5);
     }
 
     private static void endTakes0To20() {
-        Due.promise(3, "Of the last twenty bytes of the tape the first n (0 .. 20) stay");
+        Due.promise(3, "Of the last twenty bytes of the tape the first n (0 .. 20) stay: how many it has.");
         int[] sizes = {20, 21, 40, 300};
         for (int size : sizes) {
             for (int n = 0; n <= 20; n++) {

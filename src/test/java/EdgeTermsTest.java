@@ -186,7 +186,8 @@ public final class EdgeTermsTest {
     }
 
     private static void digestOfBytes() {
-        Due.promise(24, "h is 1,469,598,103,934,665,603; for each byte h = (h xor it) * 1,099,511,628,211, and then");
+        Due.promise(24, "THE DIGEST of bytes (64 bits): h is 1,469,598,103,934,665,603; for each byte h = (h xor it) * "
+                + "1,099,511,628,211, and then");
         int[] first = {0, 1, 127, 128, 254, 255};
         for (int b : first) {
             for (int size = 1; size <= 3; size++) {
@@ -319,8 +320,10 @@ public final class EdgeTermsTest {
     }
 
     private static void statesOfEachKind() {
-        Due.promise(21, "what is STAGED (1): 0 NOTHING, 1 LOADING, 2 READY, 3 TRIED; its VERSION (2), LENGTH (2), "
-                + "DIGEST's lowest 6 bytes (6); 2 bytes 0; the CHECK of these 28 (4).");
+        Due.promise(21, "Sectors 8 and 9 have STATES, each a page: a number (4, from 1 on); the CONFIRMED slot (1; 0 or "
+                + "1), VERSION (2), LENGTH (2), DIGEST (8 bytes: its lowest 6 alone, 6); what is STAGED (1): 0 NOTHING, "
+                + "1 LOADING, 2 READY, 3 TRIED; its VERSION (2), LENGTH (2), DIGEST's lowest 6 bytes (6); 2 bytes 0; the "
+                + "CHECK of these 28 (4).");
         int[][] images = {{2, 1}, {255, 255}, {256, 256}, {65535, 1024}};
         for (int[] image : images) {
             int n = image[1];

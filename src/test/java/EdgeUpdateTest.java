@@ -40,7 +40,7 @@ public final class EdgeUpdateTest {
     }
 
     private static void beginClocks() {
-        Due.promise(13, "BAD: the clock is below 0");
+        Due.promise(13, "An UPDATE begins: what it AWAITS. BAD: the clock is below 0");
         int[] wrong = {LEAST, LEAST + 1, -1000, -1};
         for (int clock : wrong) {
             Device x = new Line(40).x;
@@ -368,8 +368,8 @@ public final class EdgeUpdateTest {
     }
 
     private static void awaitsVersions() {
-        Due.promise(16, "1 the VERSION wanted (of a ROOT, LIST, IMAGES; of a PIECE that of its image; 0 else), "
-                + "2 the PIECE (0 else)");
+        Due.promise(16, "What is AWAITED: 0 that, 1 the VERSION wanted (of a ROOT, LIST, IMAGES; of a PIECE that of its "
+                + "image; 0 else), 2 the PIECE (0 else)");
         Line line = new Line(40);
         Device x = line.x;
         x.image(65535, 1024, 5);

@@ -1,4 +1,3 @@
-import java.lang.reflect.Constructor;
 import java.lang.reflect.Field;
 import java.lang.reflect.Member;
 import java.lang.reflect.Method;
@@ -6,54 +5,18 @@ import java.lang.reflect.Modifier;
 import java.nio.file.Files;
 import java.nio.file.Path;
 import java.util.ArrayList;
-import java.util.HashSet;
 import java.util.List;
-import java.util.Set;
-import java.util.TreeSet;
 
-/** The rules of LANGUAGE.md that can be seen from the class and its source; and the public face. */
+/** The rules of LANGUAGE.md that can be seen from the class and its source; rule 1, the face, is FaceTest's. */
 public final class LanguageTest {
-    private static final String[] FACE = {"feed 5 int", "end 1 int", "byteOf 1 int", "plan 3 int", "image 3 int",
-        "clear 0 int", "draft 3 int", "sign 1 int", "show 0 int", "piece 2 int", "spoil 2 int", "begin 1 int",
-        "answer 0 int", "refuse 0 int", "awaits 1 int", "stop 0 int", "power 2 int", "boot 0 int", "test 1 int",
-        "told 1 int", "trusted 3 int", "flash 2 int", "digest 0 long"};
     private static final String[] FORBIDDEN = {"throw", "try", "catch", "finally", "synchronized", "assert", "import",
         "package", "volatile", "transient", "native", "double", "float", "record", "protected", "var", "System",
         "Object", "hashCode", "toString", "Thread"};
 
     public static void main(String[] args) throws Exception {
-        face();
         classes();
         source(Files.readString(Path.of("src/main/java/FlashTrust.java")));
         Due.close("LanguageTest");
-    }
-
-    private static void face() {
-        Due.holds("public and final", Modifier.isPublic(FlashTrust.class.getModifiers())
-                && Modifier.isFinal(FlashTrust.class.getModifiers()));
-        Set<String> found = new TreeSet<>();
-        Set<String> names = new HashSet<>();
-        for (Method m : FlashTrust.class.getDeclaredMethods()) {
-            if (Modifier.isPublic(m.getModifiers())) {
-                found.add(m.getName() + " " + m.getParameterCount() + " " + m.getReturnType());
-                names.add(m.getName());
-            }
-        }
-        Due.holds("the methods of the face: " + found, found.equals(new TreeSet<>(List.of(FACE))));
-        for (Method m : FlashTrust.class.getDeclaredMethods()) {
-            boolean isPrivate = Modifier.isPrivate(m.getModifiers());
-            Due.holds(m + " is of the face or private", isPrivate || Modifier.isPublic(m.getModifiers()));
-            Due.holds(m + " has a name of its own", !isPrivate || !names.contains(m.getName()));
-        }
-        Set<String> constants = new TreeSet<>();
-        for (Field f : FlashTrust.class.getDeclaredFields()) {
-            if (!Modifier.isPrivate(f.getModifiers())) {
-                constants.add(f.getName());
-            }
-        }
-        Due.holds("the constants: " + constants, constants.equals(Set.of("BAD", "NONE", "DOWN", "STATE", "FULL")));
-        Constructor<?>[] made = FlashTrust.class.getDeclaredConstructors();
-        Due.holds("one public constructor", made.length == 1 && Modifier.isPublic(made[0].getModifiers()));
     }
 
     private static void classes() {
