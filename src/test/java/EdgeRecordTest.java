@@ -241,7 +241,7 @@ public final class EdgeRecordTest {
 
     private static void onlyAnotherBodyIsKept() {
         Due.promise(14, "KEPT, if its BODY is another one than the TRUSTED one's.");
-        int[][] bodies = {{5, 500, 1}, {5, 501, 2}, {6, 500, 2}};
+        int[][] bodies = {{5, 500, 1}, {5, 501, 2}, {6, 500, 2}, {5 + 256, 500, 2}, {5, 500 + (1 << 24), 2}};
         for (int[] b : bodies) {
             Line line = new Line(40);
             line.toTime(10);

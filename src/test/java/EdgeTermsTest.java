@@ -17,6 +17,7 @@ public final class EdgeTermsTest {
         factoryBytes();
         nothingRunsAtFirst();
         statesOfEachKind();
+        bytesOfASlotAreNoState();
         testPassedIsConfirmed();
         testNotPassedIsNothing();
         bootLeavesDown();
@@ -341,6 +342,24 @@ public final class EdgeTermsTest {
             Due.is("NOTHING", x.boot(), 1);
             isState(x, 9, 0, 5, new int[] {0, 1, n, 0, 0, 0}, programs);
         }
+    }
+
+    /** The first page of slot 0 is the one behind the STATES' sectors; a wrong PIECE puts a STATE of a great number there. */
+    private static void bytesOfASlotAreNoState() {
+        Due.promise(21, "Sectors 8 and 9 have STATES, each a page");
+        Line line = new Line(40);
+        Device x = line.x;
+        keepProgram(line, 2, 64, 5);
+        x.image(3, 64, 7);
+        Due.is("LOADING into slot 0", line.toPieces(3), 5);
+        int number = x.told(9);
+        Bytes piece = Bytes.state(9999, new int[] {0, 77, 64, 2, 78, 64}, 5, 5).padTo(64);
+        piece.feedTo(x);
+        Due.is("a wrong program", x.answer(), -18);
+        piece.isOnFlash("it is in slot 0", x, 10, 0);
+        Due.is("it does not count", x.told(9), number + 1);
+        Due.is("VERSION", x.told(4), 2);
+        Due.is("boot", x.boot(), 2);
     }
 
     private static void testPassedIsConfirmed() {

@@ -10,16 +10,20 @@ public final class InsideTest {
 
     public static void main(String[] args) {
         numbersOfRecords();
+        greatNumbersInBothSectors();
         likeNumbersOfRecords();
         checkOfARecordFits();
         lengthsOfRecords();
         recordsOfNone();
         recordsOfAnotherRole();
         recordIsKeptBehindAGreatNumber();
+        anyByteMakesAnotherBody();
         numbersOfStates();
         likeNumbersOfStates();
         bracketsOfStates();
         noStateCounts();
+        noStateCountsAnyMore();
+        statesBesideTheirSectors();
         firstStateBehindNone();
         firstStateBehindWrittenPages();
         stateBehindAWrittenPage();
@@ -61,6 +65,30 @@ public final class InsideTest {
                 Due.is("its number", x.trusted(1, 3, 0), 4);
             }
         }
+    }
+
+    private static void greatNumbersInBothSectors() {
+        Due.promise(22, "without one there is none (ROOT: the factory's)");
+        long[] wrong = {0, MOST_NUMBER + 1, 0xFFFFFFFFL};
+        for (long number : wrong) {
+            Line line = new Line(40);
+            for (int sector = 0; sector < 4; sector++) {
+                Inside.put(line.x, sector, 0, record(number, sector < 2 ? root(7, 600) : time(7)));
+            }
+            Due.is("no number of TIME", line.x.trusted(1, 3, 0), 0);
+            Due.is("no TIME", line.x.trusted(1, 0, 0), NONE);
+            Due.is("no number of ROOT", line.x.trusted(0, 3, 0), 0);
+            Due.is("the factory's ROOT", line.x.trusted(0, 0, 0), 1);
+            line.toTime(10);
+            Due.is("the first TIME", line.sendTime(1, 500), 3);
+            record(1, time(1)).part(0, 6).isOnFlash("in the first sector", line.x, 2, 0);
+        }
+        Due.promise(22, "in each perhaps a record");
+        Device x = new Line(40).x;
+        Inside.put(x, 2, 0, record(5, time(7)));
+        Inside.put(x, 2, 0, ERASED);
+        Due.is("a record that went", x.trusted(1, 3, 0), 0);
+        Due.is("none", x.trusted(1, 0, 0), NONE);
     }
 
     private static void likeNumbersOfRecords() {
@@ -183,6 +211,29 @@ public final class InsideTest {
         }
     }
 
+    /** Each byte of this BODY may be one more, and TIME is good still: no VERSION is below what was TRUSTED then. */
+    private static void anyByteMakesAnotherBody() {
+        Due.promise(14, "KEPT, if its BODY is another one than the TRUSTED one's.");
+        Bytes body = Bytes.told(0x0202, 0x02020202, 0x0202, 0x0202020202020202L);
+        for (int i = -1; i < body.size(); i++) {
+            Line line = new Line(40);
+            Bytes other = body.part(0, body.size());
+            if (i >= 0) {
+                other.all.set(i, 3);
+            }
+            Bytes[] bodies = {body, other};
+            for (Bytes next : bodies) {
+                Inside.sign(line.x, 3, next.digest());
+                line.toTime(10);
+                Bytes.document(1, next, 3).feedTo(line.x);
+                Due.is("TIME", line.x.answer(), 3);
+                line.x.stop();
+            }
+            Due.is("byte " + i + " is another", line.x.trusted(1, 3, 0), i < 0 ? 1 : 2);
+            other.isOnFlash("the BODY", line.x, i < 0 ? 2 : 3, 9);
+        }
+    }
+
     private static Bytes state(long number, int... numbers) {
         return new Bytes().num(number, 4).num(numbers[0], 1).num(numbers[1], 2).num(numbers[2], 2).num(77, 6)
                 .num(numbers[3], 1).num(numbers[4], 2).num(numbers[5], 2).num(88, 6).num(0, 2).check();
@@ -241,7 +292,7 @@ public final class InsideTest {
         int[][] good = {{0, 1, 1, 0, 0, 0}, {1, 65535, 1024, 3, 65535, 1024}, {0, 1, 1, 1, 1, 1}, {0, 5, 9, 0, 65535, 0},
             {0, 5, 9, 0, 1, 0}, {1, 256, 256, 2, 256, 256}};
         int[][] wrong = {{2, 1, 1, 0, 0, 0}, {255, 1, 1, 0, 0, 0}, {0, 0, 1, 0, 0, 0}, {0, 1, 0, 0, 0, 0},
-            {0, 1, 1025, 0, 0, 0}, {0, 1, 65535, 0, 0, 0}, {0, 1, 1, 0, 0, 1}, {0, 1, 1, 0, 0, 1024}, {0, 1, 1, 4, 1, 1},
+            {0, 1, 1025, 0, 0, 0}, {0, 1, 65535, 0, 0, 0}, {0, 0, 256, 0, 0, 0}, {1, 0, 1024, 1, 1, 1}, {0, 1, 1, 0, 0, 1}, {0, 1, 1, 0, 0, 1024}, {0, 1, 1, 4, 1, 1},
             {0, 1, 1, 255, 1, 1}, {0, 1, 1, 1, 0, 1}, {0, 1, 1, 2, 0, 1}, {0, 1, 1, 3, 0, 1}, {0, 1, 1, 1, 1, 0},
             {0, 1, 1, 2, 1, 0}, {0, 1, 1, 3, 1, 0}, {0, 1, 1, 1, 1, 1025}, {0, 1, 1, 2, 1, 1025}, {0, 1, 1, 3, 1, 65535}};
         for (int[] numbers : good) {
@@ -279,6 +330,35 @@ public final class InsideTest {
         Due.is("nothing is written", line.x.told(10) + line.x.told(11), 0);
         ERASED.isOnFlash("nor is a STATE", line.x, 8, 0);
         Due.is("an UPDATE may begin", line.x.begin(10), 1);
+    }
+
+    private static void noStateCountsAnyMore() {
+        Due.promise(21, "what is not said in it is then as the factory's");
+        for (int kind = 0; kind <= 3; kind++) {
+            Line line = new Line(40);
+            Inside.put(line.x, 8, 0, ERASED);
+            Inside.put(line.x, 9, 32, state(7, 1, 5, 60, kind, 9, kind == 0 ? 0 : 70));
+            isState("it counts", line.x, 7, 1, 5, 60, kind, 9, kind == 0 ? 0 : 70);
+            Inside.put(line.x, 9, 0, ERASED);
+            isFactoryState("none counts any more", line.x, 0);
+            isLoading(line, 8, 0, 0);
+        }
+    }
+
+    private static void statesBesideTheirSectors() {
+        Due.promise(21, "Sectors 8 and 9 have STATES, each a page");
+        Bytes state = state(7, 1, 5, 60, 2, 9, 70);
+        for (int sector = 0; sector < 26; sector++) {
+            for (int from = 0; from <= 96; from += 32) {
+                Device x = new Line(40).x;
+                Inside.put(x, sector, from, state);
+                boolean counts = sector == 8 || sector == 9;
+                Due.is("a STATE in sector " + sector + ", from " + from, x.told(9), counts ? 7 : 1);
+            }
+        }
+        Device x = new Line(40).x;
+        Inside.put(x, 8, 48, state);
+        isFactoryState("one that is in no page", x, 1);
     }
 
     private static void isLoading(Line line, int sector, int page, int erased) {
