@@ -30,7 +30,8 @@ public final class EdgeRecordTest {
 
     /** VERSIONS and ENDS were looked for: the upper 32 bits of the DIGEST are all 1s, or all but the lowest. */
     private static void checkOfARecordIsNeverAllOnes() {
-        Due.promise(23, "THE CHECK of bytes: the upper 32 bits of their DIGEST; if these are all 1s, the lowest is 0 instead");
+        Due.promise(23, "THE CHECK of bytes: the upper 32 bits of their DIGEST; if these are all 1s, the lowest is 0 "
+                + "instead");
         int[][] found = {{1, 33106722, 1}, {3, 627099268, 1}, {2, 330572204, 0}, {2, 637599855, 0}};
         for (int[] f : found) {
             Line line = new Line(40);
@@ -46,7 +47,8 @@ public final class EdgeRecordTest {
     }
 
     private static void checkOfAStateIsNeverAllOnes() {
-        Due.promise(23, "THE CHECK of bytes: the upper 32 bits of their DIGEST; if these are all 1s, the lowest is 0 instead");
+        Due.promise(23, "THE CHECK of bytes: the upper 32 bits of their DIGEST; if these are all 1s, the lowest is 0 "
+                + "instead");
         int[][] found = {{10, 65262, 17, 112, 1}, {11, 34044, 29, 71, 1}, {14, 27944, 32, 60, 0}};
         for (int[] f : found) {
             Line line = new Line(f[0]);

@@ -16,6 +16,7 @@ public final class EdgeRoleTest {
         rootTakesTimeAndListAway();
         rootTakesWhatIsTrustedAway();
         rootTakesThemAwayInOrder();
+        whatWentIsTrustedNoMore();
         timeThresholds();
         timeVersions();
         timeOfOlderLists();
@@ -254,6 +255,55 @@ public final class EdgeRoleTest {
             Due.is("ROOT behind " + n, x.trusted(0, 0, 0), n < 7 ? 1 : 2);
             Due.is("IMAGES behind " + n, x.trusted(3, 0, 0), 1);
             Due.is("those left", x.told(12), n < 7 ? -1 : 0);
+        }
+    }
+
+    /**
+     * TIME and LIST of VERSION 5, then of 6, then none of both: these are in the sectors where those of VERSION 5 were,
+     * which must not be remembered. TIME is AWAITED.
+     */
+    private static Line withoutTimeAndList() {
+        Line line = new Line(9);
+        for (int version = 5; version <= 6; version++) {
+            line.toTime(10);
+            line.prepare(version, 500);
+            Due.is("TIME", line.sendTime(version, 500), 3);
+            Due.is("LIST", line.sendList(version, 500), 4);
+            line.x.stop();
+        }
+        line.x.plan(2, 16 + 32, 1);
+        line.x.begin(10);
+        Due.is("ROOT", sendRoot(line, 2, 900), 1);
+        for (int role = 1; role <= 2; role++) {
+            Due.is("none of " + role, line.x.trusted(role, 0, 0), NONE);
+            Due.is("its number", line.x.trusted(role, 3, 0), 3);
+            Due.is("where the first was", line.x.flash(2 * role, 3), 3);
+        }
+        Due.is("TIME is AWAITED", line.x.refuse(), 2);
+        return line;
+    }
+
+    private static void whatWentIsTrustedNoMore() {
+        Due.promise(14, "VERSION not below the TRUSTED one's (3); the VERSION of the LIST in it not below that in the "
+                + "TRUSTED one (10)");
+        int[] versions = {1, 4, 5, 6, 7};
+        for (int version : versions) {
+            Line line = withoutTimeAndList();
+            line.prepare(1, 500);
+            Due.is("TIME " + version + " of LIST 1", line.sendTime(version, 500), 3);
+            Due.is("KEPT", line.x.trusted(1, 3, 0), 4);
+            Due.is("LIST 1 of IMAGES 1", line.sendList(1, 500), 4);
+            Due.is("KEPT", line.x.trusted(2, 3, 0), 4);
+        }
+        Due.promise(14, "Then the LIST, if the TRUSTED one's BODY has not the DIGEST told");
+        for (int version = 5; version <= 6; version++) {
+            Line line = withoutTimeAndList();
+            line.prepare(version, 500);
+            Due.is("TIME as it was", line.sendTime(version, 500), 3);
+            Due.is("KEPT", line.x.trusted(1, 3, 0), 4);
+            Due.is("no LIST yet", line.x.trusted(2, 0, 0), NONE);
+            Due.is("LIST as it was", line.sendList(version, 500), 4);
+            Due.is("KEPT", line.x.trusted(2, 3, 0), 4);
         }
     }
 

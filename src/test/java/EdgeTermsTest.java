@@ -344,7 +344,7 @@ public final class EdgeTermsTest {
         }
     }
 
-    /** The first page of slot 0 is the one behind the STATES' sectors; a wrong PIECE puts a STATE of a great number there. */
+    /** The first page of slot 0 is the one behind the STATES' sectors; a wrong PIECE puts a STATE there. */
     private static void bytesOfASlotAreNoState() {
         Due.promise(21, "Sectors 8 and 9 have STATES, each a page");
         Line line = new Line(40);

@@ -27,6 +27,7 @@ public final class InsideTest {
         firstStateBehindNone();
         firstStateBehindWrittenPages();
         stateBehindAWrittenPage();
+        triedIsNeitherReadyNorLoading();
         endsOfGreatNumbers();
         Due.close("InsideTest");
     }
@@ -177,7 +178,9 @@ public final class InsideTest {
     private static void recordsOfAnotherRole() {
         Due.promise(22, "and that has a DOCUMENT of its role");
         Bytes list = Bytes.document(2, Bytes.told(8, 500, 1, 0), 4);
-        Bytes images = Bytes.document(3, new Bytes().num(8, 2).num(500, 4).num(0, 1), 5, 6);
+        Bytes images = Bytes.document(3, new Bytes().num(8, 2).num(500, 4).num(1, 1).num(4, 2).num(9, 2).num(7, 8), 5, 6);
+        int[][] told = {{7, 2, BAD, BAD, BAD, BAD}, {BAD, BAD, 1, BAD, BAD, BAD}, {BAD, BAD, 1, BAD, BAD, BAD},
+            {BAD, BAD, BAD, 1, 4, 9}};
         Bytes[] documents = {root(8, 500), time(8), list, images};
         for (int role = 0; role < 4; role++) {
             for (int other = 0; other < 4; other++) {
@@ -186,6 +189,11 @@ public final class InsideTest {
                 int none = role == 0 ? 1 : NONE;
                 Due.is("a DOCUMENT of " + other + " in " + role, x.trusted(role, 0, 0), role == other ? 8 : none);
                 Due.is("its number", x.trusted(role, 3, 0), role == other ? 3 : 0);
+                Inside.put(x, 2 * role + 1, 0, record(4, documents[role]));
+                for (int what = 4; what <= 9; what++) {
+                    Due.is("behind " + other + ", trusted(" + role + ", " + what + ", 0)", x.trusted(role, what, 0),
+                            told[role][what - 4]);
+                }
             }
             Bytes malformed = documents[role].part(0, documents[role].size());
             malformed.all.set(4, 0);
@@ -292,7 +300,8 @@ public final class InsideTest {
         int[][] good = {{0, 1, 1, 0, 0, 0}, {1, 65535, 1024, 3, 65535, 1024}, {0, 1, 1, 1, 1, 1}, {0, 5, 9, 0, 65535, 0},
             {0, 5, 9, 0, 1, 0}, {1, 256, 256, 2, 256, 256}};
         int[][] wrong = {{2, 1, 1, 0, 0, 0}, {255, 1, 1, 0, 0, 0}, {0, 0, 1, 0, 0, 0}, {0, 1, 0, 0, 0, 0},
-            {0, 1, 1025, 0, 0, 0}, {0, 1, 65535, 0, 0, 0}, {0, 0, 256, 0, 0, 0}, {1, 0, 1024, 1, 1, 1}, {0, 1, 1, 0, 0, 1}, {0, 1, 1, 0, 0, 1024}, {0, 1, 1, 4, 1, 1},
+            {0, 1, 1025, 0, 0, 0}, {0, 1, 65535, 0, 0, 0}, {0, 0, 256, 0, 0, 0}, {1, 0, 1024, 1, 1, 1},
+            {0, 1, 1, 0, 0, 1}, {0, 1, 1, 0, 0, 1024}, {0, 1, 1, 4, 1, 1},
             {0, 1, 1, 255, 1, 1}, {0, 1, 1, 1, 0, 1}, {0, 1, 1, 2, 0, 1}, {0, 1, 1, 3, 0, 1}, {0, 1, 1, 1, 1, 0},
             {0, 1, 1, 2, 1, 0}, {0, 1, 1, 3, 1, 0}, {0, 1, 1, 1, 1, 1025}, {0, 1, 1, 2, 1, 1025}, {0, 1, 1, 3, 1, 65535}};
         for (int[] numbers : good) {
@@ -432,6 +441,26 @@ public final class InsideTest {
         Due.is("but in the other sector", line.x.flash(9, 3), 6);
     }
 
+    /** A boot takes TRIED away, so no UPDATE meets it. */
+    private static void triedIsNeitherReadyNorLoading() {
+        Due.promise(14, "Otherwise: the slot that is not CONFIRMED is erased, sector by sector; a STATE is written: "
+                + "LOADING that image; PIECE 0.");
+        for (int kind = 1; kind <= 3; kind++) {
+            Line line = new Line(40);
+            Device x = line.x;
+            Bytes program = Bytes.program(130, 5);
+            Inside.put(x, 18, 0, program.part(0, 128));
+            Inside.put(x, 8, 32, Bytes.state(2, new int[] {0, 1, 40, kind, 2, 130}, Bytes.factoryProgram(40).digest(),
+                    program.digest()));
+            x.image(2, 130, 5);
+            Due.is("STAGED " + kind, line.toPieces(1), kind == 2 ? 0 : 5);
+            Due.is("the PIECE", x.awaits(2), kind == 1 ? 1 : 0);
+            Due.is("the slot", x.flash(18, 0), kind == 3 ? 255 : 5);
+            Due.is("the STATE", x.told(9), kind == 3 ? 3 : 2);
+            Due.is("STAGED then", x.told(6), kind == 3 ? 1 : kind);
+        }
+    }
+
     private static void endsOfGreatNumbers() {
         Due.promise(15, "REFUSED: it goes on to TIME, if the TRUSTED ROOT has not ended (4).");
         long[] ends = {0, MOST_NUMBER - 1, MOST_NUMBER, MOST_NUMBER + 1, 0xFFFFFFFFL};
@@ -444,7 +473,8 @@ public final class InsideTest {
         Due.promise(14, "4 it ended (its END is not above the clock)");
         for (long end : ends) {
             for (int role = 1; role <= 3; role++) {
-                Due.is("role " + role + ", END " + end, endOf(role, end), end <= MOST_NUMBER ? -14 : role < 3 ? role + 2 : -19);
+                int next = role < 3 ? role + 2 : -19;
+                Due.is("role " + role + ", END " + end, endOf(role, end), end <= MOST_NUMBER ? -14 : next);
             }
         }
     }

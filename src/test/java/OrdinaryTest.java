@@ -30,8 +30,8 @@ public final class OrdinaryTest {
     }
 
     private static void rolesOfDocuments() {
-        Due.promise(8, "ROLES: 0 ROOT, 1 TIME, 2 LIST, 3 IMAGES. A DOCUMENT is its role (1 byte), the length of its BODY (2), "
-                + "the BODY, how many keys (1), and these");
+        Due.promise(8, "ROLES: 0 ROOT, 1 TIME, 2 LIST, 3 IMAGES. A DOCUMENT is its role (1 byte), the length of its BODY "
+                + "(2), the BODY, how many keys (1), and these");
         Device x = new Device(40);
         Bytes[] wanted = drafts();
         for (int role = 3; role >= 0; role--) {
@@ -115,7 +115,8 @@ public final class OrdinaryTest {
     }
 
     private static void trustedOfEachRole() {
-        Due.promise(22, "TRUSTED are of each role a DOCUMENT or none, at first the ROOT of the factory: VERSION 1, END 1,000");
+        Due.promise(22, "TRUSTED are of each role a DOCUMENT or none, at first the ROOT of the factory: VERSION 1, END "
+                + "1,000");
         Line line = new Line(40);
         Device x = line.x;
         areTrusted(x, 1, NONE, NONE, NONE);
@@ -186,9 +187,9 @@ public final class OrdinaryTest {
 
     /** One way to each ERROR; told(13) and the answer name it. */
     private static void numbersOfErrors() {
-        Due.promise(14, "1 MALFORMED, or of another role; 2 it has not enough keys; 3 the VERSION; 4 it ended (its END is not "
-                + "above the clock); 5 the DIGEST; 6 REFUSED; 7 a PIECE's length; 8 the program's DIGEST; 9 nothing that is "
-                + "newer; 10 what it names is older than what was trusted.");
+        Due.promise(14, "1 MALFORMED, or of another role; 2 it has not enough keys; 3 the VERSION; 4 it ended (its END is "
+                + "not above the clock); 5 the DIGEST; 6 REFUSED; 7 a PIECE's length; 8 the program's DIGEST; 9 nothing "
+                + "that is newer; 10 what it names is older than what was trusted.");
         Line line = new Line(40);
         Device x = line.x;
         x.begin(10);
